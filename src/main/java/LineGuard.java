@@ -352,7 +352,8 @@ public final class LineGuard {
     }
 
     void copy(Row other) {
-      copyPart(other, 0, other.size);
+      clear();
+      addPart(other, 0, other.size);
     }
 
     void copyPart(Row other, int from, int to) {
