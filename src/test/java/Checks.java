@@ -1,26 +1,63 @@
 import java.util.HexFormat;
 
-/** What the tests share: due answers counted, and bytes told as digits to the base 16. */
+/** Due answers, counted; one object for all that a test's main method runs. */
 final class Checks {
+  static final Checks ALL = new Checks();
+
+  /** More lines would hide the first ones, which tell the cause. */
+  private static final int LINES_MOST = 100;
+
   private int wrong = 0;
   private String part = "";
+  private Document document = null;
+
+  private Checks() {
+  }
 
   void part(String name) {
     part = name;
   }
 
+  /** The document that sentences are looked for in; without one they are only names. */
+  void document(Document read) {
+    document = read;
+  }
+
+  /** What follows is due by this sentence of a section. */
+  void sentence(String section, String words) {
+    part = section + ", '" + words + "'";
+    if (document != null && !document.mark(section, words)) {
+      fault("no such sentence in the document");
+    }
+  }
+
   void due(String call, long got, long want) {
     if (got != want) {
-      wrong++;
-      System.out.println(part + ": " + call + " answered " + got + ", due is " + want);
+      fault(call + " answered " + got + ", due is " + want);
     }
   }
 
   void due(String call, String got, String want) {
     if (!got.equals(want)) {
-      wrong++;
-      System.out.println(part + ": " + call + " answered " + got + ", due is " + want);
+      fault(call + " answered " + got + ", due is " + want);
     }
+  }
+
+  void unlike(String call, String got, String other) {
+    if (got.equals(other)) {
+      fault(call + " answered " + got + ", due is another");
+    }
+  }
+
+  void fault(String what) {
+    wrong++;
+    if (wrong <= LINES_MOST) {
+      System.out.println(part + ": " + what);
+    }
+  }
+
+  int faults() {
+    return wrong;
   }
 
   void end() {
@@ -42,74 +79,12 @@ final class Checks {
     return hex.repeat(times);
   }
 
-  /** The bytes come behind those on the tape. */
-  static void tell(LineGuard x, int already, byte[] told) {
-    int[] words = new int[(told.length + 19) / 20 * 5];
-    for (int i = 0; i < told.length; i++) {
-      words[i / 4] |= (told[i] & 255) << 24 - 8 * (i % 4);
-    }
-    for (int i = 0; i < words.length; i += 5) {
-      x.feed(words[i], words[i + 1], words[i + 2], words[i + 3], words[i + 4]);
-    }
-    x.end(already + told.length);
-  }
-
-  static void tape(LineGuard x, String hex) {
-    x.end(0);
-    tell(x, 0, bytes(hex));
-  }
-
-  static String line(LineGuard x) {
-    byte[] all = new byte[x.about(0, 5)];
-    for (int i = 0; i < all.length; i++) {
-      all[i] = (byte) x.line(i);
-    }
-    return hex(all);
-  }
-
-  static String out(LineGuard x) {
-    byte[] all = new byte[x.about(0, 6)];
-    for (int i = 0; i < all.length; i++) {
-      all[i] = (byte) x.out(i);
-    }
-    return hex(all);
-  }
-
-  static String secret(LineGuard x, int side, int which) {
+  /** So many bytes 1, 2, 3 ..: no two places look alike. */
+  static String rising(int count) {
     StringBuilder all = new StringBuilder();
-    for (int i = 0; x.secret(side, which, i) != -1; i++) {
-      all.append(HexFormat.of().toHexDigits((byte) x.secret(side, which, i)));
+    for (int i = 1; i <= count; i++) {
+      all.append(HexFormat.of().toHexDigits((byte) i));
     }
     return all.toString();
-  }
-
-  static int slip(LineGuard x, String hex) {
-    tape(x, hex);
-    return x.slip();
-  }
-
-  static int keys(LineGuard x, int side, int rule, String hex) {
-    tape(x, hex);
-    return x.keys(side, rule);
-  }
-
-  static int name(LineGuard x, String hex) {
-    tape(x, hex);
-    return x.name();
-  }
-
-  static int send(LineGuard x, String hex) {
-    tape(x, hex);
-    return x.send();
-  }
-
-  static int answer(LineGuard x, String hex, int sw) {
-    tape(x, hex);
-    return x.answer(sw);
-  }
-
-  static int seal(LineGuard x, int side, boolean back, String hex) {
-    tape(x, hex);
-    return x.seal(side, back);
   }
 }

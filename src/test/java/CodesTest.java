@@ -1,6 +1,6 @@
 /** The Reference's codes against examples that others published. */
 public final class CodesTest {
-  private static final Checks C = new Checks();
+  private static final Checks C = Checks.ALL;
 
   public static void main(String[] args) {
     codes();

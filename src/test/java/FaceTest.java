@@ -12,7 +12,7 @@ import java.util.regex.Pattern;
 
 /** The face that the document has, and the rules of LANGUAGE.md that a text can be searched for. */
 public final class FaceTest {
-  private static final Checks C = new Checks();
+  private static final Checks C = Checks.ALL;
   private static final String[] FACE = {"feed int int int int int", "end int", "out int", "line int",
     "alter int int", "cut int", "slip", "keys int int", "name", "counter int", "start long",
     "prove int", "send", "take", "answer int", "accept int", "seal int boolean",

@@ -6,7 +6,7 @@ import javax.crypto.spec.IvParameterSpec;
 import javax.crypto.spec.SecretKeySpec;
 
 /** The document once more, over the Java library's own ciphers: what LineGuard is held against. */
-final class Reference {
+final class Reference implements Face {
   static final class Side {
     int rule;
     byte[][] told;
@@ -195,21 +195,25 @@ final class Reference {
     return part(command, 4, command.length);
   }
 
-  /** The MAC of what stands on the line with its data (by RULE 3 hidden, where it is). */
-  private static byte[] macOf(Side s, byte[] command, byte[] data) {
+  /** The next command's MAC, by RULE 3 with the rest of the CHAIN behind it. */
+  static byte[] codeOf(Side s, byte[] command, byte[] data) {
     byte[] text = join(command[0] & 0xF8 | 4, command[1], command[2], command[3], data.length + 8, data);
     if (s.rule == 2) {
       byte[] iv = s.macBefore == null ? new byte[8]
           : des(true, part(s.mac, 0, 8), new byte[8], s.macBefore);
-      s.macBefore = retail(s.mac, iv, text);
-      return s.macBefore;
+      return retail(s.mac, iv, text);
     }
-    s.chain = cmac(s.mac, join(s.chain, text));
+    return cmac(s.mac, join(s.chain, text));
+  }
+
+  /** The MAC of what stands on the line with its data (by RULE 3 hidden, where it is). */
+  private static byte[] macOf(Side s, byte[] command, byte[] data) {
+    s.macBefore = s.chain = codeOf(s, command, data);
     return part(s.chain, 0, 8);
   }
 
-  private static byte[] countIv(Side s, int mark) {
-    byte[] block = number(s.count, 16);
+  static byte[] countIv(Side s, long count, int mark) {
+    byte[] block = number(count, 16);
     block[0] = (byte) mark;
     return aes(true, s.enc, new byte[16], block);
   }
@@ -229,7 +233,7 @@ final class Reference {
       return joinBytes(head, shown, mac);
     }
     if (hide) {
-      data = aes(true, s.enc, countIv(s, 0), padded(data, 16));
+      data = aes(true, s.enc, countIv(s, s.count, 0), padded(data, 16));
     }
     return joinBytes(head, data, macOf(s, command, data));
   }
@@ -248,7 +252,7 @@ final class Reference {
         return null;
       }
       plain = unpadded(s.rule == 2 ? des3(false, s.enc, new byte[8], data)
-          : aes(false, s.enc, countIv(s, 0), data));
+          : aes(false, s.enc, countIv(s, s.count, 0), data));
     }
     if (plain == null || plain.length > 200
         || !Arrays.equals(mac, macOf(s, line, s.rule == 2 ? plain : data))) {
@@ -259,7 +263,7 @@ final class Reference {
     return command;
   }
 
-  private static byte[] answerCode(Side s, byte[] data, int sw) {
+  static byte[] answerCode(Side s, byte[] data, int sw) {
     if (s.rule == 2) {
       byte[] c = s.command;
       return retail(s.back, s.backChain, join(c[0] & 0xF8, c[1], c[2], c[3], c.length - 4,
@@ -286,7 +290,7 @@ final class Reference {
 
   // The face
 
-  int feed(int a, int b, int c, int d, int e) {
+  public int feed(int a, int b, int c, int d, int e) {
     if (tape.length > 380) {
       return -1;
     }
@@ -294,7 +298,7 @@ final class Reference {
     return tape.length;
   }
 
-  int end(int n) {
+  public int end(int n) {
     if (n < 0 || n > tape.length) {
       return -1;
     }
@@ -302,22 +306,22 @@ final class Reference {
     return n;
   }
 
-  int out(int i) {
+  public int out(int i) {
     return at(out, i);
   }
 
-  int line(int i) {
+  public int line(int i) {
     return at(line, i);
   }
 
-  int alter(int i, int x) {
+  public int alter(int i, int x) {
     if (i >= 0 && i < line.length) {
       line[i] ^= (byte) x;
     }
     return at(line, i);
   }
 
-  int cut(int n) {
+  public int cut(int n) {
     if (n < 0 || n > line.length) {
       return -1;
     }
@@ -325,7 +329,7 @@ final class Reference {
     return n;
   }
 
-  int slip() {
+  public int slip() {
     byte[] told = takeTape();
     if (told.length > 300) {
       return -1;
@@ -334,7 +338,7 @@ final class Reference {
     return told.length;
   }
 
-  int keys(int side, int rule) {
+  public int keys(int side, int rule) {
     byte[] told = takeTape();
     int n = told.length / 3;
     boolean fits = told.length == 48 || rule == 3 && (told.length == 72 || told.length == 96);
@@ -348,7 +352,7 @@ final class Reference {
     return 1;
   }
 
-  int name() {
+  public int name() {
     byte[] told = takeTape();
     if (told.length > 16) {
       return -1;
@@ -358,7 +362,7 @@ final class Reference {
     return told.length;
   }
 
-  int counter(int n) {
+  public int counter(int n) {
     if (n < 0 || n > 0xFFFFFF) {
       return -1;
     }
@@ -366,7 +370,7 @@ final class Reference {
     return 1;
   }
 
-  int start(long h) {
+  public int start(long h) {
     Side caller = sides[0];
     Side holder = sides[1];
     if (caller.rule == 0 || caller.rule != holder.rule
@@ -381,7 +385,7 @@ final class Reference {
     return caller.state;
   }
 
-  int prove(int level) {
+  public int prove(int level) {
     Side s = sides[0];
     if (s.state != 1 || !isLevel(s.rule, level)) {
       return -1;
@@ -393,7 +397,7 @@ final class Reference {
     return line.length;
   }
 
-  int send() {
+  public int send() {
     byte[] told = takeTape();
     Side s = sides[0];
     if (s.state != 2 || (s.level & 1) == 0 || told.length < 4 || told.length > 204) {
@@ -405,7 +409,7 @@ final class Reference {
     return line.length;
   }
 
-  int take() {
+  public int take() {
     Side s = sides[1];
     if (line.length == 0 || s.state == 0 || s.state == 2 && (s.level & 1) == 0) {
       return -1;
@@ -436,7 +440,7 @@ final class Reference {
     return 0x9000;
   }
 
-  int answer(int sw) {
+  public int answer(int sw) {
     byte[] told = takeTape();
     Side s = sides[1];
     if (s.state != 2 || (s.level & 0x10) == 0 || s.command == null || told.length > 200
@@ -444,7 +448,7 @@ final class Reference {
       return -1;
     }
     if ((s.level & 0x20) != 0 && told.length > 0) {
-      told = aes(true, s.enc, countIv(s, 0x80), padded(told, 16));
+      told = aes(true, s.enc, countIv(s, s.count, 0x80), padded(told, 16));
     }
     byte[] code = answerCode(s, told, sw);
     s.backChain = code;
@@ -452,7 +456,7 @@ final class Reference {
     return line.length;
   }
 
-  int accept(int sw) {
+  public int accept(int sw) {
     Side s = sides[0];
     if (s.state != 2 || (s.level & 0x10) == 0 || s.command == null || sw < 0 || sw > 0xFFFF) {
       return -1;
@@ -468,7 +472,7 @@ final class Reference {
       return 0;
     }
     if ((s.level & 0x20) != 0 && data.length > 0) {
-      data = data.length % 16 == 0 ? unpadded(aes(false, s.enc, countIv(s, 0x80), data)) : null;
+      data = data.length % 16 == 0 ? unpadded(aes(false, s.enc, countIv(s, s.count, 0x80), data)) : null;
       if (data == null) {
         return 0;
       }
@@ -478,7 +482,7 @@ final class Reference {
     return 1;
   }
 
-  int seal(int side, boolean back) {
+  public int seal(int side, boolean back) {
     byte[] told = takeTape();
     if (side != 0 && side != 1 || sides[side].state == 0 || told.length == 0
         || told.length % (sides[side].rule == 2 ? 8 : 16) != 0) {
@@ -497,7 +501,7 @@ final class Reference {
     return out.length;
   }
 
-  int secret(int side, int which, int i) {
+  public int secret(int side, int which, int i) {
     if (side != 0 && side != 1 || sides[side].state == 0) {
       return -1;
     }
@@ -506,7 +510,7 @@ final class Reference {
     return which >= 0 && which < all.length ? at(all[which], i) : -1;
   }
 
-  int about(int side, int what) {
+  public int about(int side, int what) {
     if (side != 0 && side != 1) {
       return -1;
     }
