@@ -13,6 +13,7 @@ final class OfSides {
     nameAtFirst();
     counterAtFirst();
     sessions();
+    keysStay();
     olderNumber();
     olderKeys();
     olderProofs();
@@ -157,6 +158,36 @@ final class OfSides {
         C.due("prove", x.prove(1), Face.NONE);
         C.due("slip", x.slip("0102"), 2);
         C.due("take", x.take(), Face.NONE);
+      }
+    }
+  }
+
+  /** Whatever a session did, the next one is made of what was told. */
+  private static void keysStay() {
+    C.part("Terms, KEYS and THE NAME are those told, whatever comes behind");
+    for (int rule = 2; rule <= 3; rule++) {
+      Guard x = Guard.commanded(rule, 0x13, "8001020304");
+      x.answer("61", 0x9000);
+      x.accept(0x9000);
+      x.seal(0, false, Checks.rising(32));
+      x.seal(1, true, Checks.rising(32));
+      x.slip("0102");
+      x.alter(0, 1);
+      x.cut(1);
+      x.line(0);
+      x.out(0);
+      x.secret(1, 3, 0);
+      x.about(1, 2);
+      x.take();
+      x.accept(0);
+      x.name(Checks.rising(17));
+      x.keys(0, 2, Checks.rising(49));
+      x.counter(Face.COUNTER);
+      x.start(Face.H);
+      Guard y = Guard.begun(rule);
+      for (int which = 0; which < 7; which++) {
+        C.due("the caller's " + which, x.secret(0, which), y.secret(0, which));
+        C.due("the holder's " + which, x.secret(1, which), y.secret(1, which));
       }
     }
   }

@@ -25,6 +25,7 @@ public final class SentencesTest {
     OfAnswers.run();
     OfLooks.run();
     OfRefusals.run();
+    OfRests.run();
     C.part("document");
     if (document == null) {
       System.out.println("no document: its sentences are not looked for");
